@@ -1,5 +1,8 @@
 /** Compares answers with those that are due and ends a test with exit code 1 if one was wrong. */
 final class Due {
+    /** So many wrong answers are shown: the first ones tell the most. */
+    private static final int SHOWN = 40;
+
     private final String test;
     private int asked = 0;
     private int wrong = 0;
@@ -12,6 +15,9 @@ final class Due {
         asked++;
         if (got != want) {
             wrong++;
+            if (wrong > SHOWN) {
+                return;
+            }
             System.out.println(test + ": " + call + " answered " + got + ", due is " + want);
         }
     }
