@@ -643,7 +643,9 @@ public final class SlotRadio {
                 return false;
             }
             held[payload] = false;
-            wantAtLeast(pairOfIt, number[payload] + 1);
+            if (number[payload] == wanted[pairOfIt]) {
+                wanted[pairOfIt]++;
+            }
             return true;
         }
     }

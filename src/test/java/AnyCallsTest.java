@@ -6,13 +6,6 @@ public final class AnyCallsTest {
     private static final int[] NUMBERS = {Integer.MIN_VALUE, -2, -1, 0, 1, 2, 3, 4, 5, 6, 7, 8, 9, 10, 40, 100, 101,
         699, 700, 1000, 1001, 2000, 2001, 1000000, 1000001, Integer.MAX_VALUE};
 
-    public static void main(String[] args) {
-        for (int seed = 0; seed < 200; seed++) {
-            new AnyCallsTest(seed).go();
-        }
-        DUE.end();
-    }
-
     private final Random random;
     private final SlotRadio radio;
     /** For each payload its two stations, as one number. */
@@ -21,6 +14,13 @@ public final class AnyCallsTest {
     private AnyCallsTest(int seed) {
         random = new Random(seed);
         radio = new SlotRadio(any());
+    }
+
+    public static void main(String[] args) {
+        for (int seed = 0; seed < 200; seed++) {
+            new AnyCallsTest(seed).go();
+        }
+        DUE.end();
     }
 
     private void go() {

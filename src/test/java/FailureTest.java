@@ -5,6 +5,7 @@ public final class FailureTest {
     public static void main(String[] args) {
         givenUp();
         givenUpIsTheFirstAlone();
+        whoKeepsNoneDrawsNone();
         asksFailToo();
         lostAcknowledgement();
         acknowledgementOfNothing();
@@ -34,7 +35,6 @@ public final class FailureTest {
         }
         DUE.events("given up", radio, new int[][] {{1, 2, 40}});
         DUE.is("sent", radio.sent(0, 3), 5);
-        DUE.is("the count of who keeps none is not drawn", radio.state(0, 1), 0);
     }
 
     private static void givenUpIsTheFirstAlone() {
@@ -52,6 +52,20 @@ public final class FailureTest {
         DUE.is("its count is drawn", radio.state(0, 1), 2);
         radio.run(60);
         DUE.events("the second, too", radio, new int[][] {{1, 2, 45}, {2, 2, 87}});
+    }
+
+    /** The only payload is given up in 40, or acknowledged in 7: the coin told just before is not drawn. */
+    private static void whoKeepsNoneDrawsNone() {
+        for (int end = 7; end <= 40; end += 33) {
+            SlotRadio radio = new SlotRadio(2);
+            radio.hear(1, 0, end == 7);
+            radio.offer(0, 1, 1);
+            radio.run(end);
+            radio.coin(3);
+            DUE.is("the payload goes in " + end, radio.run(1), 1);
+            DUE.is("the coin is not drawn", radio.coin(3), 2);
+            DUE.is("the count is as it was", radio.state(0, 1), 0);
+        }
     }
 
     /** ASK in 3 4 fails in 8, or the ANSWER to it is lost. */
