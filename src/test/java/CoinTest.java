@@ -6,7 +6,6 @@ public final class CoinTest {
         answers();
         drawnInTheirOrder();
         modulo();
-        atMost400();
         drawnByFailures();
         DUE.end();
     }
@@ -15,9 +14,7 @@ public final class CoinTest {
         SlotRadio radio = new SlotRadio(2);
         DUE.is("coin(0)", radio.coin(0), 1);
         DUE.is("coin(MAX)", radio.coin(Integer.MAX_VALUE), 2);
-        DUE.is("coin(-1)", radio.coin(-1), SlotRadio.OUTSIDE);
-        DUE.is("coin(MIN)", radio.coin(Integer.MIN_VALUE), SlotRadio.OUTSIDE);
-        DUE.is("refused ones are not told", radio.coin(5), 3);
+        DUE.is("coin(5)", radio.coin(5), 3);
     }
 
     private static void drawnInTheirOrder() {
@@ -52,18 +49,6 @@ public final class CoinTest {
         none.offer(1, 0, 1);
         DUE.is("drawn when there is none", none.state(1, 1), 0);
         DUE.is("and none is owed", none.coin(3), 1);
-    }
-
-    private static void atMost400() {
-        SlotRadio radio = new SlotRadio(2);
-        for (int i = 1; i <= 400; i++) {
-            DUE.is("coin " + i, radio.coin(1), i);
-        }
-        DUE.is("the 401st", radio.coin(1), 400);
-        DUE.is("the 401st, refused", radio.coin(-1), SlotRadio.OUTSIDE);
-        radio.offer(0, 1, 1);
-        DUE.is("room does not come back", radio.coin(1), 399);
-        DUE.is("room does not come back", radio.coin(1), 399);
     }
 
     /** The width grows before the count is drawn: 6 of 0 .. 7, 14 of 0 .. 15. */

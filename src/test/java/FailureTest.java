@@ -1,9 +1,10 @@
-/** Promise 7: attempts that fail, are tried again and given up; collisions; how long a station needs the medium idle. */
+/**
+ * Promise 7: attempts that fail, are tried again and given up; collisions; how long a station needs the medium idle.
+ */
 public final class FailureTest {
     private static final Due DUE = new Due("FailureTest");
 
     public static void main(String[] args) {
-        givenUp();
         givenUpIsTheFirstAlone();
         whoKeepsNoneDrawsNone();
         asksFailToo();
@@ -14,27 +15,6 @@ public final class FailureTest {
         hiddenStations();
         needs();
         DUE.end();
-    }
-
-    /** DATA in 3 4, 11 12, 19 20, 27 28, 35 36; each fails 4 slots behind its end. */
-    private static void givenUp() {
-        SlotRadio radio = new SlotRadio(2);
-        radio.hear(1, 0, false);
-        radio.offer(0, 1, 1);
-        int[] width = {7, 15, 31, 63, 3};
-        int[] tries = {1, 2, 3, 4, 0};
-        radio.run(8);
-        for (int i = 0; i < width.length; i++) {
-            DUE.is("tries before failure " + i, radio.state(0, 2), i);
-            DUE.is("events of failure " + i, radio.run(1), i == 4 ? 1 : 0);
-            DUE.is("width behind failure " + i, radio.state(0, 0), width[i]);
-            DUE.is("tries behind failure " + i, radio.state(0, 2), tries[i]);
-            DUE.is("idle behind failure " + i, radio.state(0, 5), 1);
-            DUE.is("kept behind failure " + i, radio.state(0, 7), i == 4 ? 0 : 1);
-            radio.run(7);
-        }
-        DUE.events("given up", radio, new int[][] {{1, 2, 40}});
-        DUE.is("sent", radio.sent(0, 3), 5);
     }
 
     private static void givenUpIsTheFirstAlone() {

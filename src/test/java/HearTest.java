@@ -4,7 +4,6 @@ public final class HearTest {
 
     public static void main(String[] args) {
         answers();
-        refusals();
         oneWay();
         deafForOneSlot();
         deafAtTheEnd();
@@ -20,20 +19,6 @@ public final class HearTest {
         DUE.is("another one is as it was", radio.hear(0, 2, true), 0);
         DUE.is("on", radio.hear(0, 1, true), 1);
         DUE.is("on again", radio.hear(0, 1, true), 0);
-    }
-
-    private static void refusals() {
-        SlotRadio radio = new SlotRadio(3);
-        int[] wrong = {-1, 3, Integer.MIN_VALUE, Integer.MAX_VALUE};
-        for (int station : wrong) {
-            DUE.is("hear(" + station + ", 0)", radio.hear(station, 0, false), SlotRadio.UNKNOWN);
-            DUE.is("hear(0, " + station + ")", radio.hear(0, station, false), SlotRadio.UNKNOWN);
-            DUE.is("hear(" + station + ", itself)", radio.hear(station, station, false), SlotRadio.UNKNOWN);
-        }
-        for (int station = 0; station < 3; station++) {
-            DUE.is("hears itself", radio.hear(station, station, true), SlotRadio.OUTSIDE);
-            DUE.is("does not hear itself", radio.hear(station, station, false), SlotRadio.OUTSIDE);
-        }
     }
 
     /** DATA in slots 3 and 4 goes through, ACKNOWLEDGE in 6 and 7 is not heard. */

@@ -1,21 +1,30 @@
 import java.util.Random;
+import java.util.function.ToIntFunction;
 
-/** Promises 1 to 11 in runs that nobody chose: SlotRadio answers as PlainRadio does. The seeds are fixed. */
+/**
+ * Promises 1 to 11 in runs that nobody chose: SlotRadio answers as PlainRadio does. The seeds are fixed. An object is
+ * used for 512 calls at most, so there are several that all get the calls that change something; each is asked other
+ * things.
+ */
 public final class ModelTest {
     private static final Due DUE = new Due("ModelTest");
     private static final int RUNS = 1500;
+    /** 8 states and 4 kinds of frames. */
+    private static final int STATES = 8, ALIKE = 12;
 
     private final Random random;
     private final String name;
     private final int many;
-    private final SlotRadio radio;
+    private final SlotRadio[] radios = new SlotRadio[ALIKE];
     private final PlainRadio plain;
 
     private ModelTest(int seed) {
         random = new Random(seed);
         name = "run " + seed;
         many = 2 + random.nextInt(5);
-        radio = new SlotRadio(many);
+        for (int i = 0; i < ALIKE; i++) {
+            radios[i] = new SlotRadio(many);
+        }
         plain = new PlainRadio(many);
     }
 
@@ -68,13 +77,13 @@ public final class ModelTest {
         int to = (from + 1 + random.nextInt(many - 1)) % many;
         int slots = 1 + random.nextInt(random.nextBoolean() ? 2 : 8);
         int want = plain.stations.get(from).kept.size() == 10 ? SlotRadio.ROOM : plain.offer(from, to, slots);
-        is("offer(" + from + ", " + to + ", " + slots + ")", radio.offer(from, to, slots), want);
+        all("offer(" + from + ", " + to + ", " + slots + ")", want, r -> r.offer(from, to, slots));
     }
 
     private void coin() {
         int v = random.nextInt(random.nextBoolean() ? 4 : 1000);
         plain.coins.add(v);
-        is("coin(" + v + ")", radio.coin(v), plain.coins.size() - plain.drawn);
+        all("coin(" + v + ")", plain.coins.size() - plain.drawn, r -> r.coin(v));
     }
 
     private void noise() {
@@ -86,7 +95,7 @@ public final class ModelTest {
             plain.noises.add(new PlainRadio.Noise(station, from, n));
         }
         int want = room ? plain.noises.size() : SlotRadio.ROOM;
-        is("noise(" + station + ", " + from + ", " + n + ")", radio.noise(station, from, n), want);
+        all("noise(" + station + ", " + from + ", " + n + ")", want, r -> r.noise(station, from, n));
     }
 
     private void hear() {
@@ -95,28 +104,29 @@ public final class ModelTest {
         boolean on = random.nextInt(3) > 0;
         int want = plain.hears[station][other] == on ? 0 : 1;
         plain.hears[station][other] = on;
-        is("hear(" + station + ", " + other + ", " + on + ")", radio.hear(station, other, on), want);
+        all("hear(" + station + ", " + other + ", " + on + ")", want, r -> r.hear(station, other, on));
     }
 
     private void setThreshold() {
         int slots = random.nextInt(25);
-        is("threshold(" + slots + ")", radio.threshold(slots), plain.threshold);
+        all("threshold(" + slots + ")", plain.threshold, r -> r.threshold(slots));
         plain.threshold = slots;
     }
 
     private void slots(int n) {
-        is("run(" + n + ")", radio.run(n), plain.run(n));
+        all("run(" + n + ")", plain.run(n), r -> r.run(n));
     }
 
     private void compare() {
-        is("now", radio.now(), plain.t);
+        is("now", radios[0].now(), plain.t);
         for (int station = 0; station < many; station++) {
-            for (int what = 0; what < 8; what++) {
-                is("state(" + station + ", " + what + ")", radio.state(station, what), plain.state(station, what));
+            for (int what = 0; what < STATES; what++) {
+                int got = radios[what].state(station, what);
+                is("state(" + station + ", " + what + ")", got, plain.state(station, what));
             }
             for (int kind = 1; kind <= 4; kind++) {
-                int want = plain.stations.get(station).sent[kind];
-                is("sent(" + station + ", " + kind + ")", radio.sent(station, kind), want);
+                int got = radios[ALIKE - kind].sent(station, kind);
+                is("sent(" + station + ", " + kind + ")", got, plain.stations.get(station).sent[kind]);
             }
         }
     }
@@ -124,11 +134,17 @@ public final class ModelTest {
     private void compareEvents() {
         for (int i = 0; i < plain.events.size(); i++) {
             PlainRadio.Event event = plain.events.get(i);
-            is("event(" + i + ", 0)", radio.event(i, 0), event.payload());
-            is("event(" + i + ", 1)", radio.event(i, 1), event.kind());
-            is("event(" + i + ", 2)", radio.event(i, 2), event.slot());
+            is("event(" + i + ", 0)", radios[0].event(i, 0), event.payload());
+            is("event(" + i + ", 1)", radios[1].event(i, 1), event.kind());
+            is("event(" + i + ", 2)", radios[2].event(i, 2), event.slot());
         }
-        is("event behind the last", radio.event(plain.events.size(), 0), SlotRadio.NONE);
+        is("event behind the last", radios[3].event(plain.events.size(), 0), SlotRadio.NONE);
+    }
+
+    private void all(String call, int want, ToIntFunction<SlotRadio> on) {
+        for (SlotRadio radio : radios) {
+            is(call, on.applyAsInt(radio), want);
+        }
     }
 
     private void is(String call, long got, long want) {

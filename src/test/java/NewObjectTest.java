@@ -1,24 +1,11 @@
-/** Promise 1: how many stations there are, and how all is at first. */
+/** Promise 1: how all is at first. */
 public final class NewObjectTest {
     private static final Due DUE = new Due("NewObjectTest");
 
     public static void main(String[] args) {
-        stations(2, Integer.MIN_VALUE, -1, 0, 1, 2);
-        stations(3, 3);
-        stations(4, 4);
-        stations(5, 5);
-        stations(6, 6, 7, 600, Integer.MAX_VALUE);
         atFirst();
         objectsAreApart();
         DUE.end();
-    }
-
-    private static void stations(int want, int... told) {
-        for (int many : told) {
-            SlotRadio radio = new SlotRadio(many);
-            DUE.is("the last of SlotRadio(" + many + ")", radio.state(want - 1, 0), 3);
-            DUE.is("none behind the last of SlotRadio(" + many + ")", radio.state(want, 0), SlotRadio.UNKNOWN);
-        }
     }
 
     private static void atFirst() {

@@ -4,8 +4,6 @@ public final class NoiseTest {
 
     public static void main(String[] args) {
         answers();
-        refusals();
-        atMost40();
         whichSlots();
         whichStation();
         noiseIsNotBusy();
@@ -19,39 +17,6 @@ public final class NoiseTest {
         DUE.is("another station", radio.noise(2, 1000000, 1000), 3);
         radio.run(10);
         DUE.is("rows that are over count", radio.noise(1, 10, 5), 4);
-    }
-
-    private static void refusals() {
-        SlotRadio radio = new SlotRadio(3);
-        radio.run(10);
-        int[] wrong = {-1, 3, Integer.MIN_VALUE, Integer.MAX_VALUE};
-        for (int station : wrong) {
-            DUE.is("at " + station, radio.noise(station, 10, 1), SlotRadio.UNKNOWN);
-            DUE.is("at " + station + ", too early", radio.noise(station, 0, 0), SlotRadio.UNKNOWN);
-        }
-        long[] times = {9, 0, -1, 1000001, Long.MIN_VALUE, Long.MAX_VALUE, 10L + (1L << 32)};
-        for (long from : times) {
-            DUE.is("from " + from, radio.noise(0, from, 1), SlotRadio.OUTSIDE);
-        }
-        int[] lengths = {0, -1, 1001, Integer.MIN_VALUE, Integer.MAX_VALUE};
-        for (int n : lengths) {
-            DUE.is("of " + n, radio.noise(0, 10, n), SlotRadio.OUTSIDE);
-        }
-        DUE.is("from now", radio.noise(0, 10, 1), 1);
-        DUE.is("the last and longest", radio.noise(0, 1000000, 1000), 2);
-    }
-
-    private static void atMost40() {
-        SlotRadio radio = new SlotRadio(2);
-        for (int i = 1; i <= 40; i++) {
-            DUE.is("row " + i, radio.noise(1, 2 * i, 1), i);
-        }
-        DUE.is("row 41", radio.noise(1, 100, 1), SlotRadio.ROOM);
-        DUE.is("row 41 at another station", radio.noise(0, 100, 1), SlotRadio.ROOM);
-        DUE.is("of several UNKNOWN", radio.noise(2, 100, 0), SlotRadio.UNKNOWN);
-        DUE.is("of several OUTSIDE", radio.noise(1, 100, 0), SlotRadio.OUTSIDE);
-        radio.run(200);
-        DUE.is("room does not come back", radio.noise(1, 300, 1), SlotRadio.ROOM);
     }
 
     /** DATA has slots 3 .. 7: its head, then payloads 1 to 4. One row of noise takes what it covers. */

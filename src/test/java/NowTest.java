@@ -9,9 +9,6 @@ public final class NowTest {
         DUE.is("behind one slot", radio.now(), 1);
         radio.run(2000);
         DUE.is("behind 2001", radio.now(), 2001);
-        radio.run(0);
-        radio.run(2001);
-        DUE.is("refused runs take no time", radio.now(), 2001);
         radio.offer(0, 1, 1);
         radio.coin(1);
         radio.hear(0, 1, true);
@@ -22,10 +19,6 @@ public final class NowTest {
         DUE.is("the event of slot 2002 is to come", radio.event(0, 2), SlotRadio.NONE);
         radio.run(1);
         DUE.is("an event has the slot, not now", radio.event(0, 2), 2002);
-        for (int i = 0; i < 495; i++) {
-            radio.run(2000);
-        }
-        DUE.is("behind 512 calls", radio.now(), 2003 + 495L * 2000);
         DUE.end();
     }
 }

@@ -4,8 +4,6 @@ public final class OfferTest {
 
     public static void main(String[] args) {
         answers();
-        refusals();
-        keepsTen();
         atMost300();
         lengths();
         countsAreDrawn();
@@ -20,44 +18,6 @@ public final class OfferTest {
         DUE.is("kept by 2", radio.state(2, 7), 2);
         DUE.is("kept by 0", radio.state(0, 7), 1);
         DUE.is("kept by 1", radio.state(1, 7), 0);
-    }
-
-    private static void refusals() {
-        SlotRadio radio = new SlotRadio(3);
-        radio.coin(3);
-        int[] wrong = {-1, 3, Integer.MIN_VALUE, Integer.MAX_VALUE};
-        for (int station : wrong) {
-            DUE.is("from " + station, radio.offer(station, 0, 1), SlotRadio.UNKNOWN);
-            DUE.is("to " + station, radio.offer(0, station, 1), SlotRadio.UNKNOWN);
-            DUE.is("to " + station + ", 0 slots", radio.offer(0, station, 0), SlotRadio.UNKNOWN);
-            DUE.is("from and to " + station, radio.offer(station, station, 1), SlotRadio.UNKNOWN);
-        }
-        for (int station = 0; station < 3; station++) {
-            DUE.is("to itself", radio.offer(station, station, 1), SlotRadio.OUTSIDE);
-        }
-        int[] lengths = {0, -1, 9, Integer.MIN_VALUE, Integer.MAX_VALUE};
-        for (int slots : lengths) {
-            DUE.is("slots " + slots, radio.offer(0, 1, slots), SlotRadio.OUTSIDE);
-        }
-        DUE.is("nothing is kept", radio.state(0, 7), 0);
-        DUE.is("nothing is drawn", radio.coin(0), 2);
-        DUE.is("no payload was used up", radio.offer(0, 1, 1), 1);
-    }
-
-    private static void keepsTen() {
-        SlotRadio radio = new SlotRadio(3);
-        for (int i = 1; i <= 10; i++) {
-            DUE.is("offer " + i, radio.offer(0, 1 + i % 2, 1), i);
-        }
-        DUE.is("the eleventh", radio.offer(0, 1, 1), SlotRadio.ROOM);
-        DUE.is("of several refusals UNKNOWN", radio.offer(0, 3, 9), SlotRadio.UNKNOWN);
-        DUE.is("of several refusals OUTSIDE", radio.offer(0, 1, 9), SlotRadio.OUTSIDE);
-        DUE.is("of several refusals OUTSIDE", radio.offer(0, 0, 1), SlotRadio.OUTSIDE);
-        DUE.is("kept", radio.state(0, 7), 10);
-        radio.coin(3);
-        DUE.is("another station has room", radio.offer(1, 0, 1), 11);
-        radio.run(30);
-        DUE.is("room comes back", radio.offer(0, 1, 1), 12);
     }
 
     private static void atMost300() {

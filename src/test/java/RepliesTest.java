@@ -3,32 +3,12 @@ public final class RepliesTest {
     private static final Due DUE = new Due("RepliesTest");
 
     public static void main(String[] args) {
-        whoWaitsDoesNotAnswer();
         whoWaitsAcknowledges();
         whoSendsDoesNotAcknowledge();
         whoSentBeforeAcknowledges();
         whoHasAFrameDueDoesNotAcknowledge();
         answersOfOthersDoNotCount();
         DUE.end();
-    }
-
-    /**
-     * 1 asks 2 (which is deaf) in 3 and 4 and waits until 8; 0 does not hear 1 and asks it. An ASK that ends with 7 is
-     * not answered; one that ends with 8 is, for 1 waits no more then.
-     */
-    private static void whoWaitsDoesNotAnswer() {
-        for (int end = 6; end <= 8; end++) {
-            SlotRadio radio = new SlotRadio(3);
-            radio.threshold(0);
-            radio.hear(2, 1, false);
-            radio.hear(0, 1, false);
-            radio.offer(1, 2, 1);
-            radio.run(end - 1);
-            radio.offer(0, 1, 1);
-            radio.run(4);
-            DUE.is("asked so that it ends with " + end, radio.sent(0, 1), 1);
-            DUE.is("answered what ends with " + end, radio.sent(1, 2), end == 8 ? 1 : 0);
-        }
     }
 
     /** 1 sends DATA to 2 (deaf) in 3 and 4 and waits until 8; 0 does not hear 1 and sends it DATA in 5 and 6. */

@@ -4,7 +4,6 @@ public final class RunTest {
 
     public static void main(String[] args) {
         answers();
-        refusals();
         oneRunOrMany();
         begins();
         rowsOfPayloads();
@@ -23,16 +22,6 @@ public final class RunTest {
         DUE.is("two are acknowledged", radio.run(1), 2);
         DUE.is("run(2000)", radio.run(2000), 0);
         DUE.is("now", radio.now(), 2009);
-    }
-
-    private static void refusals() {
-        SlotRadio radio = new SlotRadio(2);
-        int[] wrong = {0, -1, 2001, Integer.MIN_VALUE, Integer.MAX_VALUE};
-        for (int n : wrong) {
-            DUE.is("run(" + n + ")", radio.run(n), SlotRadio.OUTSIDE);
-        }
-        DUE.is("no slot passed", radio.now(), 0);
-        DUE.is("none was idle", radio.state(0, 5), 0);
     }
 
     private static void oneRunOrMany() {

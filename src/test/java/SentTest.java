@@ -3,24 +3,9 @@ public final class SentTest {
     private static final Due DUE = new Due("SentTest");
 
     public static void main(String[] args) {
-        refusals();
         whenTheyBegin();
         eachAttempt();
         DUE.end();
-    }
-
-    private static void refusals() {
-        SlotRadio radio = new SlotRadio(5);
-        int[] stations = {-1, 5, 6, Integer.MIN_VALUE, Integer.MAX_VALUE};
-        for (int station : stations) {
-            for (int kind = 0; kind <= 5; kind++) {
-                DUE.is("sent(" + station + ", " + kind + ")", radio.sent(station, kind), SlotRadio.UNKNOWN);
-            }
-        }
-        int[] kinds = {0, -1, 5, Integer.MIN_VALUE, Integer.MAX_VALUE};
-        for (int kind : kinds) {
-            DUE.is("sent(4, " + kind + ")", radio.sent(4, kind), SlotRadio.OUTSIDE);
-        }
     }
 
     /** ASK 3 4, ANSWER 6 7, DATA 9 10, ACKNOWLEDGE 12 13: each counts from its first slot on. */

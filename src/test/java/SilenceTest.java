@@ -10,7 +10,6 @@ public final class SilenceTest {
         theLaterOne();
         lostFramesSilenceNobody();
         silentStationsWait();
-        silentStationsDoNotAnswer();
         DUE.end();
     }
 
@@ -104,27 +103,5 @@ public final class SilenceTest {
         DUE.is("not yet", radio.sent(2, 1), 0);
         radio.run(1);
         DUE.is("begun", radio.sent(2, 1), 1);
-    }
-
-    /**
-     * Station 1 hears station 2 ask 3 (which is deaf) in slots 3 and 4 for 2 slots: it is silent until 14. Station 0
-     * does not hear 2 and asks 1: an ASK that ends with 12 is not answered, one that ends with 13 is.
-     */
-    private static void silentStationsDoNotAnswer() {
-        for (int end = 12; end <= 13; end++) {
-            SlotRadio radio = new SlotRadio(4);
-            radio.threshold(0);
-            radio.hear(0, 2, false);
-            radio.hear(3, 2, false);
-            radio.coin(0);
-            radio.coin(7);
-            radio.offer(2, 3, 1);
-            radio.run(end - 1);
-            DUE.is("silent", radio.state(1, 3), 15 - end);
-            radio.offer(0, 1, 1);
-            radio.run(4);
-            DUE.is("asked", radio.sent(0, 1), 1);
-            DUE.is("answered an ASK that ends with " + end, radio.sent(1, 2), end == 13 ? 1 : 0);
-        }
     }
 }

@@ -3,27 +3,10 @@ public final class StateTest {
     private static final Due DUE = new Due("StateTest");
 
     public static void main(String[] args) {
-        refusals();
         inAFrame();
         afterAFailure();
         asksChangeNothing();
         DUE.end();
-    }
-
-    private static void refusals() {
-        SlotRadio radio = new SlotRadio(4);
-        int[] stations = {-1, 4, 6, Integer.MIN_VALUE, Integer.MAX_VALUE};
-        for (int station : stations) {
-            for (int what = -1; what <= 8; what++) {
-                DUE.is("state(" + station + ", " + what + ")", radio.state(station, what), SlotRadio.UNKNOWN);
-            }
-        }
-        int[] wrong = {-1, 8, Integer.MIN_VALUE, Integer.MAX_VALUE};
-        for (int what : wrong) {
-            for (int station = 0; station < 4; station++) {
-                DUE.is("state(" + station + ", " + what + ")", radio.state(station, what), SlotRadio.OUTSIDE);
-            }
-        }
     }
 
     /** DATA of 0 in 3 .. 6, ACKNOWLEDGE of 1 in 8 and 9; 1 keeps a payload, too, with count 3. */
