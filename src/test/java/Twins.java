@@ -122,8 +122,12 @@ final class Twins {
         return radio;
     }
 
+    /** A row that begins in slot 3. Coins are left, so that one that a refused call draws is missed. */
     static SlotRadio kept(int many) {
         SlotRadio radio = new SlotRadio(STATIONS);
+        radio.coin(0);
+        radio.coin(3);
+        radio.coin(2);
         for (int i = 0; i < many; i++) {
             radio.offer(0, 1, 1);
         }
@@ -132,13 +136,14 @@ final class Twins {
 
     static SlotRadio noisy(int rows) {
         SlotRadio radio = new SlotRadio(STATIONS);
+        radio.coin(3);
         for (int i = 0; i < rows; i++) {
             radio.noise(1, 2L * i, 1);
         }
         return radio;
     }
 
-    /** Payloads from 0 to 1, of which none is left but those of the last 9 or fewer. */
+    /** Payloads from 0 to 1, of which none is left but those of the last 9 or fewer. Here, too, coins are left. */
     static SlotRadio offered(int many) {
         SlotRadio radio = new SlotRadio(STATIONS);
         for (int i = 1; i <= many; i++) {
@@ -147,6 +152,8 @@ final class Twins {
                 radio.run(100);
             }
         }
+        radio.coin(3);
+        radio.coin(2);
         return radio;
     }
 
