@@ -6,6 +6,7 @@ public final class EdgeIdleTest {
     public static void main(String[] args) {
         needsThreeBeforeItHeard();
         needsBehindTheSlotBefore();
+        heardInThatSlot();
         receivedWithThatSlot();
         busyWhenItSends();
         busyWhenItHears();
@@ -37,6 +38,22 @@ public final class EdgeIdleTest {
         good.noise(1, 3, 1);
         good.run(13);
         DUE.states("needs behind one that is received in 13 and 14", good, 1, NEEDS, 6, 6, 3, 3);
+    }
+
+    /**
+     * "but did in the slot before": DATA in 3 .. 11, and hearing that is changed behind 5. Who heard 5 needs 6 in 6;
+     * who did not hear it does not, though hearing was on for a while between the slots.
+     */
+    private static void heardInThatSlot() {
+        for (int heard = 0; heard <= 1; heard++) {
+            SlotRadio radio = new SlotRadio(3);
+            radio.offer(0, 1, 8);
+            radio.hear(2, 0, heard == 1);
+            radio.run(6);
+            radio.hear(2, 0, heard == 0);
+            radio.hear(2, 0, false);
+            DUE.states("needs of who heard 5: " + heard, radio, 2, NEEDS, heard == 1 ? 6 : 3, heard == 1 ? 6 : 3);
+        }
     }
 
     /**

@@ -9,6 +9,7 @@ public final class EdgeSentTest {
         kindOutside();
         firstAndLastKind();
         fromTheFirstSlotOn();
+        onceHoweverLong();
         DUE.end();
     }
 
@@ -50,6 +51,20 @@ public final class EdgeSentTest {
             DUE.is(frame + " before slot " + row[2], Twins.asked(row[2]).sent(row[0], row[1]), 0);
             DUE.is(frame + " behind slot " + row[2], Twins.asked(row[2] + 1).sent(row[0], row[1]), 1);
             DUE.is(frame + " behind the next slot", Twins.asked(row[2] + 2).sent(row[0], row[1]), 1);
+        }
+    }
+
+    /** The longest DATA, in 3 .. 35: it is one frame in each of its slots and behind them. */
+    private static void onceHoweverLong() {
+        SlotRadio radio = new SlotRadio(2);
+        radio.threshold(100);
+        for (int i = 0; i < 4; i++) {
+            radio.offer(0, 1, 8);
+        }
+        radio.run(3);
+        for (int slot = 3; slot <= 37; slot++) {
+            radio.run(1);
+            DUE.is("sent(0, 3) behind slot " + slot, radio.sent(0, 3), 1);
         }
     }
 }

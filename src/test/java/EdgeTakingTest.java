@@ -10,6 +10,7 @@ public final class EdgeTakingTest {
         heldIsTheFirstOne();
         asLongAsTheWantedOneIsHeld();
         numbersOfOneToAnother();
+        heldOfAnotherPairStaysHeld();
         DUE.end();
     }
 
@@ -142,5 +143,34 @@ public final class EdgeTakingTest {
         radio.offer(0, 1, 1);
         radio.run(6);
         DUE.events("one row", radio, new int[][] {{1, 1, 5}, {6, 1, 5}});
+    }
+
+    /**
+     * Number 1 from 0 to 1 is held; number 0, sent in 12 and then every 8 slots, is given up in 49. What goes from and
+     * to others, in two rows, tells nothing of these; number 2 from 0 to 1 does.
+     */
+    private static void heldOfAnotherPairStaysHeld() {
+        int[][] others = {{0, 2}, {2, 1}, {1, 0}, {2, 0}, {1, 2}};
+        for (int[] other : others) {
+            SlotRadio radio = new SlotRadio(3);
+            radio.offer(0, 1, 1);
+            radio.offer(0, 1, 1);
+            radio.noise(1, 4, 1);
+            radio.run(9);
+            radio.hear(1, 0, false);
+            radio.run(50);
+            radio.hear(1, 0, true);
+            DUE.events("given up", radio, new int[][] {{2, 3, 8}, {1, 2, 49}});
+            for (int i = 0; i < 5; i++) {
+                radio.offer(other[0], other[1], 1);
+            }
+            String pair = "from " + other[0] + " to " + other[1];
+            DUE.is("handed over and acknowledged " + pair, radio.run(60), 10);
+            DUE.is("the last handed over " + pair, radio.event(10, 0), 7);
+            radio.offer(0, 1, 1);
+            DUE.is("and then from 0 to 1", radio.run(40), 3);
+            DUE.is("the held one first", radio.event(12, 0), 2);
+            DUE.is("then the new one", radio.event(13, 0), 8);
+        }
     }
 }
