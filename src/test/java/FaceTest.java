@@ -6,42 +6,86 @@ import java.lang.reflect.Modifier;
 import java.util.Set;
 import java.util.TreeSet;
 
-/** The public face: all of it, and nothing beside it. */
+/** The public face: all of it as it is written in the document, and nothing beside it. */
 public final class FaceTest {
-    public static void main(String[] args) {
-        Due due = new Due("FaceTest");
-        due.is("NONE", SlotRadio.NONE, -1);
-        due.is("UNKNOWN", SlotRadio.UNKNOWN, -11);
-        due.is("OUTSIDE", SlotRadio.OUTSIDE, -12);
-        due.is("ROOM", SlotRadio.ROOM, -14);
+    private static final Due DUE = new Due("FaceTest");
+    private static final Set<String> FACE = Set.of(
+            "public static final int SlotRadio.NONE",
+            "public static final int SlotRadio.UNKNOWN",
+            "public static final int SlotRadio.OUTSIDE",
+            "public static final int SlotRadio.ROOM",
+            "public SlotRadio(int)",
+            "public int SlotRadio.hear(int,int,boolean)",
+            "public int SlotRadio.coin(int)",
+            "public int SlotRadio.threshold(int)",
+            "public int SlotRadio.offer(int,int,int)",
+            "public int SlotRadio.noise(int,long,int)",
+            "public int SlotRadio.run(int)",
+            "public int SlotRadio.event(int,int)",
+            "public int SlotRadio.state(int,int)",
+            "public int SlotRadio.sent(int,int)",
+            "public long SlotRadio.now()");
 
-        Set<String> want = new TreeSet<>(Set.of("NONE", "UNKNOWN", "OUTSIDE", "ROOM", "SlotRadio", "hear", "coin",
-                "threshold", "offer", "noise", "run", "event", "state", "sent", "now"));
-        Set<String> got = new TreeSet<>();
-        for (Field field : SlotRadio.class.getDeclaredFields()) {
-            addUnlessPrivate(got, field);
-        }
-        for (Method method : SlotRadio.class.getDeclaredMethods()) {
-            addUnlessPrivate(got, method);
-            due.is(method.getName() + " is private though a public method has its name",
-                    Modifier.isPrivate(method.getModifiers()) && want.contains(method.getName()) ? 1 : 0, 0);
-        }
-        for (Constructor<?> constructor : SlotRadio.class.getDeclaredConstructors()) {
-            addUnlessPrivate(got, constructor);
-        }
-        due.is("members " + got, got.equals(want) ? 1 : 0, 1);
-        due.is("public final", SlotRadio.class.getModifiers() & (Modifier.PUBLIC | Modifier.FINAL),
-                Modifier.PUBLIC | Modifier.FINAL);
-        for (Class<?> inside : SlotRadio.class.getDeclaredClasses()) {
-            int shown = inside.getModifiers() & (Modifier.PUBLIC | Modifier.PROTECTED);
-            due.is(inside + " is shown", shown, 0);
-        }
-        due.end();
+    public static void main(String[] args) {
+        constants();
+        membersThatAreSeen();
+        privateMethodsHaveNamesOfTheirOwn();
+        classesInside();
+        DUE.end();
     }
 
-    private static void addUnlessPrivate(Set<String> names, Member member) {
+    private static void constants() {
+        DUE.is("NONE", SlotRadio.NONE, -1);
+        DUE.is("UNKNOWN", SlotRadio.UNKNOWN, -11);
+        DUE.is("OUTSIDE", SlotRadio.OUTSIDE, -12);
+        DUE.is("ROOM", SlotRadio.ROOM, -14);
+    }
+
+    private static void membersThatAreSeen() {
+        Set<String> seen = new TreeSet<>();
+        for (Field field : SlotRadio.class.getDeclaredFields()) {
+            addUnlessPrivate(seen, field);
+        }
+        for (Method method : SlotRadio.class.getDeclaredMethods()) {
+            addUnlessPrivate(seen, method);
+        }
+        for (Constructor<?> constructor : SlotRadio.class.getDeclaredConstructors()) {
+            addUnlessPrivate(seen, constructor);
+        }
+        for (String member : FACE) {
+            DUE.is("there is " + member, seen.contains(member) ? 1 : 0, 1);
+        }
+        for (String member : seen) {
+            DUE.is("the document has " + member, FACE.contains(member) ? 1 : 0, 1);
+        }
+    }
+
+    private static void addUnlessPrivate(Set<String> seen, Member member) {
         if (!Modifier.isPrivate(member.getModifiers())) {
-            names.add(member.getName());
+            seen.add(member.toString());
+        }
+    }
+
+    /** Rule 1 of LANGUAGE.md. */
+    private static void privateMethodsHaveNamesOfTheirOwn() {
+        Set<String> names = new TreeSet<>();
+        for (Method method : SlotRadio.class.getDeclaredMethods()) {
+            if (Modifier.isPublic(method.getModifiers())) {
+                names.add(method.getName());
+            }
+        }
+        for (Method method : SlotRadio.class.getDeclaredMethods()) {
+            boolean taken = Modifier.isPrivate(method.getModifiers()) && names.contains(method.getName());
+            DUE.is("a private method has the name " + method.getName(), taken ? 1 : 0, 0);
+        }
+    }
+
+    private static void classesInside() {
+        DUE.is("public final", SlotRadio.class.getModifiers(), Modifier.PUBLIC | Modifier.FINAL);
+        for (Class<?> inside : SlotRadio.class.getDeclaredClasses()) {
+            int modifiers = inside.getModifiers();
+            DUE.is(inside + " is seen", modifiers & (Modifier.PUBLIC | Modifier.PROTECTED), 0);
+            DUE.is(inside + " is static", modifiers & Modifier.STATIC, Modifier.STATIC);
         }
     }
 }

@@ -43,13 +43,36 @@ public final class ModelTest {
             }
         }
         setThreshold();
-        int steps = 20 + random.nextInt(60);
-        for (int step = 0; step < steps; step++) {
-            call(random.nextInt(20));
+        if (random.nextInt(3) == 0) {
+            restless();
+        } else {
+            int steps = 20 + random.nextInt(60);
+            for (int step = 0; step < steps; step++) {
+                call(random.nextInt(20));
+            }
         }
         slots(300);
         compare();
         compareEvents();
+    }
+
+    /** Hearing changes from slot to slot, so that frames are received of which only the head and a part were heard. */
+    private void restless() {
+        for (int step = 0; step < 200; step++) {
+            int which = random.nextInt(20);
+            if (which < 4) {
+                offer();
+            } else if (which < 5) {
+                coin();
+            } else if (which < 11) {
+                hear();
+            } else {
+                slots(1);
+                if (step % 5 == 0) {
+                    compare();
+                }
+            }
+        }
     }
 
     private void call(int which) {
